@@ -39,8 +39,7 @@ public final class PalmTastes {
     private final Street street = new Street();
     private final Acts acts = new Acts();
     private final Street[] images = new Street[IMAGES];
-    private final StreetText text = new StreetText(tape);
-    private final Asks asks = new Asks(street);
+    private final Asks asks = new Asks();
     private int latestFault = 0;
     private int latestFinding = 0;
 
@@ -117,13 +116,13 @@ public final class PalmTastes {
     }
 
     public int street() {
-        boolean right = text.tell();
+        boolean right = tape.isStreet();
         tape.length = 0;
         if (!right) {
-            latestFault = text.fault;
-            return FAULTS - text.faultPlace;
+            latestFault = tape.fault;
+            return FAULTS - tape.faultPlace;
         }
-        street.become(text.draft);
+        street.become(tape.draft);
         acts.forgetAll();
         return street.walls;
     }
@@ -164,8 +163,7 @@ public final class PalmTastes {
         if (!street.hasReader(reader)) return BAD;
         acts.keep(street);
         int used = street.usedInAll(reader);
-        palm.take(street, reader);
-        palm.rested();
+        palm.forgetAll();
         palm.leave(street, reader);
         return used;
     }
@@ -388,7 +386,7 @@ public final class PalmTastes {
 
     public int ask(int reader, int what) {
         if (!street.hasReader(reader) || what < SIZE || what > MARK) return BAD;
-        return asks.answer(what, reader);
+        return asks.answer(street, reader, what);
     }
 
     public int trace(int i) {
@@ -456,55 +454,43 @@ public final class PalmTastes {
         }
     }
 
+    /** The tape, read token by token as a street; as a draft, so that a fault leaves the street as it was. */
     private static final class Tape {
+        private static final int END = 0, NAME = 1, NUMBER = 2, SIGN = 3, NO_TOKEN = 4;
+        private static final int OUT_OF_PLACE = 1, NOT_AS_TOLD = 2, NO_ROOM = 3;
+        private static final int MOST_FIGURES = 3;
+
         int length = 0;
-        final int[] bytes = new int[MOST_BYTES];
-
-        void add(int value) {
-            if (length < MOST_BYTES) bytes[length++] = value;
-        }
-
-        /** The byte at a place; -1 beyond the end. */
-        int at(int place) {
-            return place >= 0 && place < length ? bytes[place] : -1;
-        }
-    }
-
-    /** Reads a tape, token by token, as a street; a draft, so that a fault leaves the street as it was. */
-    private static final class StreetText {
-        static final int END = 0, NAME = 1, NUMBER = 2, SIGN = 3, NO_TOKEN = 4;
-        static final int MOST_FIGURES = 3;
-
         final Street draft = new Street();
         int fault = 0;
         int faultPlace = 0;
-        private final Tape tape;
+        private final int[] bytes = new int[MOST_BYTES];
         private int token = END;
         private int begins = 0;
         private int ends = 0;
         private int value = 0;
 
-        StreetText(Tape tape) {
-            this.tape = tape;
+        void add(int next) {
+            if (length < MOST_BYTES) bytes[length++] = next;
         }
 
         /** Whether the tape is a street, which is in the draft then; else the fault is told. */
-        boolean tell() {
+        boolean isStreet() {
             draft.clear();
             ends = 0;
             toNextToken();
-            if (!isWord("wall")) return faulty(1);
+            if (!isWord("wall")) return faulty(OUT_OF_PLACE);
             for (int i = 0; i < MOST_BYTES && isWord("wall"); i++) {
                 if (!tellWall()) return false;
             }
             for (int i = 0; i < MOST_BYTES && isWord("reader"); i++) {
                 if (!tellReader()) return false;
             }
-            return token == END || faulty(1);
+            return token == END || faulty(OUT_OF_PLACE);
         }
 
         private boolean tellWall() {
-            if (draft.walls >= MOST_WALLS) return faulty(3);
+            if (draft.walls >= MOST_WALLS) return faulty(NO_ROOM);
             toNextToken();
             if (!tellNumbers(draft.strong, draft.walls * FLAVOURS, STRONGEST)) return false;
             draft.walls++;
@@ -512,10 +498,10 @@ public final class PalmTastes {
         }
 
         private boolean tellReader() {
-            if (draft.readers >= MOST_READERS) return faulty(3);
+            if (draft.readers >= MOST_READERS) return faulty(NO_ROOM);
             toNextToken();
             int kind = kindOfSort();
-            if (kind < 0) return faulty(1);
+            if (kind < 0) return faulty(OUT_OF_PLACE);
             toNextToken();
             int palm = draft.readers * PALM;
             if (!tellNumbers(draft.palms, palm, MOST_USED)) return false;
@@ -527,8 +513,8 @@ public final class PalmTastes {
 
         private boolean tellNumbers(int[] into, int from, int most) {
             for (int i = from; i < from + FLAVOURS && i < into.length; i++) {
-                if (token != NUMBER) return faulty(1);
-                if (value > most) return faulty(2);
+                if (token != NUMBER) return faulty(OUT_OF_PLACE);
+                if (value > most) return faulty(NOT_AS_TOLD);
                 into[i] = value;
                 toNextToken();
             }
@@ -536,7 +522,7 @@ public final class PalmTastes {
         }
 
         private boolean tellSign() {
-            if (token != SIGN) return faulty(1);
+            if (token != SIGN) return faulty(OUT_OF_PLACE);
             toNextToken();
             return true;
         }
@@ -550,6 +536,11 @@ public final class PalmTastes {
             return -1;
         }
 
+        /** The byte at a place; -1 beyond the end. */
+        private int at(int place) {
+            return place >= 0 && place < length ? bytes[place] : -1;
+        }
+
         private boolean faulty(int number) {
             fault = number;
             faultPlace = begins;
@@ -559,20 +550,20 @@ public final class PalmTastes {
         private boolean isWord(String word) {
             if (token != NAME || word.length() != ends - begins) return false;
             for (int i = 0; i < word.length(); i++) {
-                if (tape.at(begins + i) != word.charAt(i)) return false;
+                if (at(begins + i) != word.charAt(i)) return false;
             }
             return true;
         }
 
         private void toNextToken() {
             begins = ends;
-            while (begins < tape.length && isBlank(tape.at(begins))) begins++;
+            while (begins < length && isBlank(at(begins))) begins++;
             ends = begins;
-            int first = tape.at(begins);
+            int first = at(begins);
             if (first < 0) {
                 token = END;
             } else if (isLetter(first)) {
-                while (ends < tape.length && isLetter(tape.at(ends))) ends++;
+                while (ends < length && isLetter(at(ends))) ends++;
                 token = NAME;
             } else if (isFigure(first)) {
                 toEndOfNumber();
@@ -584,8 +575,8 @@ public final class PalmTastes {
 
         private void toEndOfNumber() {
             value = 0;
-            while (ends < tape.length && isFigure(tape.at(ends))) {
-                value = value * 10 + tape.at(ends) - '0';
+            while (ends < length && isFigure(at(ends))) {
+                value = value * 10 + at(ends) - '0';
                 ends++;
             }
             // Of a run too long the value may have wrapped around: none asks for it.
@@ -614,13 +605,11 @@ public final class PalmTastes {
         final int[] kinds = new int[MOST_READERS];
         final int[] palms = new int[MOST_READERS * PALM];
 
+        /** What stays in the arrays beyond the counts is read by nobody. */
         void clear() {
             walls = 0;
             readers = 0;
             days = 0;
-            Arrays.fill(strong, 0);
-            Arrays.fill(kinds, 0);
-            Arrays.fill(palms, 0);
         }
 
         void become(Street other) {
@@ -690,7 +679,7 @@ public final class PalmTastes {
             System.arraycopy(used, 0, street.palms, reader * PALM, FLAVOURS);
         }
 
-        void rested() {
+        void forgetAll() {
             aftertaste = NOTHING;
             Arrays.fill(used, 0);
         }
@@ -786,19 +775,14 @@ public final class PalmTastes {
     private static final class Asks {
         int traced = 0;
         final int[] bodies = new int[MOST_TRACED];
-        private final Street street;
 
-        Asks(Street street) {
-            this.street = street;
-        }
-
-        int answer(int what, int reader) {
+        int answer(Street street, int reader, int what) {
             traced = 0;
-            return askAnew(what, reader, 0);
+            return askAnew(street, reader, what, 0);
         }
 
-        private int askAnew(int what, int reader, int depth) {
-            return gives(bodyFor(what, street.kinds[reader]), reader, depth);
+        private int askAnew(Street street, int reader, int what, int depth) {
+            return gives(street, reader, bodyFor(what, street.kinds[reader]), depth);
         }
 
         private int bodyFor(int what, int kind) {
@@ -811,21 +795,21 @@ public final class PalmTastes {
             return body;
         }
 
-        private int gives(int body, int reader, int depth) {
+        private int gives(Street street, int reader, int body, int depth) {
             if (depth > DEEPEST) return 0;
             leave(body);
             int deeper = depth + 1;
             switch (body) {
                 case 10: return street.usedInAll(reader);
-                case 11: return gives(10, reader, deeper) + askAnew(MARK, reader, deeper);
-                case 12: return -gives(11, reader, deeper);
-                case 13: return gives(10, reader, deeper) - 100;
-                case 14: return 2 * gives(13, reader, deeper);
+                case 11: return gives(street, reader, 10, deeper) + askAnew(street, reader, MARK, deeper);
+                case 12: return -gives(street, reader, 11, deeper);
+                case 13: return gives(street, reader, 10, deeper) - 100;
+                case 14: return 2 * gives(street, reader, 13, deeper);
                 case 20: return reader;
-                case 21: return gives(20, reader, deeper) + street.palms[reader * PALM + AFTERTASTE];
-                case 22: return gives(21, reader, deeper) - 1000;
-                case 23: return gives(20, reader, deeper) - askAnew(SIZE, reader, deeper);
-                case 24: return 2 * gives(21, reader, deeper);
+                case 21: return gives(street, reader, 20, deeper) + street.palms[reader * PALM + AFTERTASTE];
+                case 22: return gives(street, reader, 21, deeper) - 1000;
+                case 23: return gives(street, reader, 20, deeper) - askAnew(street, reader, SIZE, deeper);
+                case 24: return 2 * gives(street, reader, 21, deeper);
                 default: return 0;
             }
         }

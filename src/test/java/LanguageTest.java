@@ -132,12 +132,11 @@ public final class LanguageTest {
     private static void callsMakeNothing() {
         com.sun.management.ThreadMXBean threads = (com.sun.management.ThreadMXBean) ManagementFactory.getThreadMXBean();
         if (!threads.isThreadAllocatedMemorySupported()) return;
-        long id = Thread.currentThread().getId();
         everyCall(new PalmTastes());
         PalmTastes x = new PalmTastes();
-        long before = threads.getThreadAllocatedBytes(id);
+        long before = threads.getCurrentThreadAllocatedBytes();
         int sum = everyCall(x);
-        long made = threads.getThreadAllocatedBytes(id) - before;
+        long made = threads.getCurrentThreadAllocatedBytes() - before;
         due.is("bytes made by the calls: " + made + " (" + sum + ")", made < 2000 ? 1 : 0, 1);
     }
 
