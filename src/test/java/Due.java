@@ -15,6 +15,15 @@ final class Due {
         }
     }
 
+    void same(String call, String got, String want) {
+        if (got.equals(want)) {
+            passed++;
+        } else {
+            failed++;
+            if (failed <= 50) System.out.println(call + " " + got + ", due is " + want);
+        }
+    }
+
     /** Ends the test's program: with exit code 1 if an answer was not the one that is due. */
     void end(String test) {
         System.out.println(test + ": " + passed + " answers as due, " + failed + " not");

@@ -35,7 +35,7 @@ public final class ModelTest {
 
     private void go() {
         if (random.nextInt(4) != 0) street();
-        while (calls < CALLS - 120) {
+        while (calls < CALLS - 150) {
             int what = random.nextInt(40);
             if (what == 0) street();
             else if (what < 12) rows(what);
