@@ -217,6 +217,10 @@ public final class TextBoundsTest {
         faulty(W + W + R + R + W, 1, 72);
         faulty(";" + W, 1, 0);
         faulty("0", 1, 0);
+        for (String none : new String[] {"xall", "walx", "wal", "all", "xwall", "wallx"}) faulty(none + " 0 0 0 0 0;", 1, 0);
+        for (String none : new String[] {"xeader", "readex", "reade", "eader", "xreader", "readerx"}) {
+            faulty(W + none + " wax 0 0 0 0 0;", 1, 15);
+        }
     }
 
     /** "'wall' and 5 NUMBERS ';'", "'reader' SORT and 5 NUMBERS ';'" */
@@ -276,6 +280,7 @@ public final class TextBoundsTest {
             faulty(W + "reader x" + sort + " 0 0 0 0 0;", 1, 22);
             faulty(W + "reader " + sort.substring(1) + " 0 0 0 0 0;", 1, 22);
             faulty(W + "reader " + shorter + "z 0 0 0 0 0;", 1, 22);
+            faulty(W + "reader z" + sort.substring(1) + " 0 0 0 0 0;", 1, 22);
             faulty(W + "reader " + sort + " " + sort + " 0 0 0 0 0;", 1, 23 + sort.length());
         }
         for (String none : new String[] {"reader", "wall", "sweet", "0", ";", "Plain"}) faulty(W + "reader " + none, 1, 22);
