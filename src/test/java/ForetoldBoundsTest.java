@@ -15,6 +15,7 @@ public final class ForetoldBoundsTest {
         fewestWalks();
         atSomeWall();
         oneBehindAnother();
+        oftenOnEachWay();
         asLittleAsCanBe();
         atMostThirty();
         cannotBeAtOne();
@@ -164,6 +165,36 @@ public final class ForetoldBoundsTest {
         due.is("bitter the second time", y.often(0, 0, 0), 2);
         y.walk(1, 0, 0);
         due.is("nothing the first time, bitter the second", y.often(1, 0, 0), 2);
+    }
+
+    /** "WALKS of the same way": of each way on eight walls, up, down, of one; each wall is held against itself. */
+    private static void oftenOnEachWay() {
+        StringBuilder walls = new StringBuilder();
+        for (int w = 0; w < 8; w++) {
+            walls.append("wall");
+            for (int f = 0; f < 5; f++) walls.append(' ').append(f == w % 5 ? 30 : 0);
+            walls.append(';');
+        }
+        for (String sort : SORTS) {
+            PalmTastes x = Due.on(walls + "reader " + sort + " 0 0 0 0 0;");
+            for (int way = 0; way < 64; way++) {
+                due.is(sort + " reads alike from " + way / 8 + " to " + way % 8, x.often(0, way / 8, way % 8), Due.NONE);
+            }
+        }
+        // Up to the faint wall alone he is used to sweet by 8 as late as this.
+        int[] upToIt = {9, 5, 3, 3, 2, 2, 2, 2};
+        for (int faint = 0; faint < 8; faint++) {
+            // Of sweet by 10 he feels 1 at least on the first walk; on the second he is used to it by 8 at least, 2 less.
+            PalmTastes x = Due.on("wall 30 0 0 0 0;".repeat(faint) + "wall 10 0 0 0 0;" + "wall 30 0 0 0 0;".repeat(7 - faint)
+                + "reader plain 0 0 0 0 0;reader fever 0 0 0 0 0;");
+            for (int r = 0; r < 2; r++) {
+                due.is("up, wall " + faint + " is faint", x.often(r, 0, 7), 2);
+                due.is("down, wall " + faint + " is faint", x.often(r, 7, 0), 2);
+                due.is("up to it", x.often(r, 0, faint), upToIt[faint]);
+                if (faint > 0) due.is("up to the one ahead of it", x.often(r, 0, faint - 1), Due.NONE);
+                if (faint < 7) due.is("down to the one behind it", x.often(r, 7, faint + 1), Due.NONE);
+            }
+        }
     }
 
     private static int spice(String text, int flavour) {

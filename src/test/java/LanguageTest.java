@@ -1,3 +1,4 @@
+import java.io.DataInputStream;
 import java.io.IOException;
 import java.lang.management.ManagementFactory;
 import java.lang.reflect.Constructor;
@@ -22,7 +23,9 @@ public final class LanguageTest {
 
     public static void main(String[] args) throws IOException {
         face();
+        constants();
         fields();
+        for (Class<?> c : classes()) library(c);
         String source = withoutComments(Files.readString(SOURCE));
         words(source);
         newOnlyAtFirst(source);
@@ -67,6 +70,23 @@ public final class LanguageTest {
         due.is("final", Modifier.isFinal(PalmTastes.class.getModifiers()) ? 1 : 0, 1);
     }
 
+    /** As they stand in the class, not as a compiler has written them into this test. */
+    private static void constants() {
+        Map<String, Integer> values = Map.of("NONE", -1000000, "BAD", -1000001, "STATE", -1000002, "FULL", -1000003);
+        int open = 0;
+        for (Field f : PalmTastes.class.getFields()) {
+            open++;
+            boolean told = values.containsKey(f.getName()) && f.getType() == int.class;
+            due.is("told: " + f, told && f.getModifiers() == (Modifier.PUBLIC | Modifier.STATIC | Modifier.FINAL) ? 1 : 0, 1);
+            try {
+                if (told) due.is(f.getName(), f.getInt(null), values.get(f.getName()));
+            } catch (IllegalAccessException e) {
+                due.is(f.getName() + " is open", 0, 1);
+            }
+        }
+        due.is("constants", open, 4);
+    }
+
     private static List<Class<?>> classes() {
         List<Class<?>> all = new ArrayList<>();
         all.add(PalmTastes.class);
@@ -88,6 +108,52 @@ public final class LanguageTest {
                 due.is("private: " + f, c != PalmTastes.class || told || Modifier.isPrivate(f.getModifiers()) ? 1 : 0, 1);
             }
             due.is("twenty fields: " + c, own <= 20 ? 1 : 0, 1);
+        }
+    }
+
+    /** What stands in rule 4, by what the compiled class calls: no other class of Java's, no other function of these. */
+    private static final Map<String, Set<String>> LIBRARY = Map.of(
+        "java/lang/Object", Set.of("<init>"),
+        "java/lang/String", Set.of("<init>", "length", "charAt", "isEmpty", "equals", "indexOf", "substring", "toCharArray"),
+        "java/lang/StringBuilder", Set.of("<init>", "append", "charAt", "setCharAt", "setLength", "deleteCharAt", "reverse", "length", "toString"),
+        "java/util/ArrayList", Set.of("<init>", "add", "get", "set", "remove", "size", "isEmpty", "clear", "iterator"),
+        "java/util/List", Set.of("add", "get", "set", "remove", "size", "isEmpty", "clear", "iterator", "of"),
+        "java/lang/Integer", Set.of("valueOf", "intValue", "compare", "max", "min", "bitCount"),
+        "java/lang/Long", Set.of("compare", "max", "min", "bitCount"),
+        "java/lang/Math", Set.of("max", "min", "abs", "floorDiv", "floorMod"),
+        "java/lang/System", Set.of("arraycopy"),
+        "java/util/Arrays", Set.of("copyOf", "copyOfRange", "fill"));
+
+    private static void library(Class<?> c) throws IOException {
+        try (DataInputStream in = new DataInputStream(c.getResourceAsStream(c.getName() + ".class"))) {
+            in.skipBytes(8);
+            int size = in.readUnsignedShort();
+            int[] tags = new int[size];
+            int[][] parts = new int[size][2];
+            String[] texts = new String[size];
+            for (int i = 1; i < size; i++) {
+                tags[i] = in.readUnsignedByte();
+                switch (tags[i]) {
+                    case 1 -> texts[i] = in.readUTF();
+                    case 3, 4 -> in.readInt();
+                    case 5, 6 -> {
+                        in.readLong();
+                        i++;
+                    }
+                    case 9, 10, 11, 12, 17, 18 -> parts[i] = new int[] {in.readUnsignedShort(), in.readUnsignedShort()};
+                    case 15 -> in.skipBytes(3);
+                    default -> parts[i][0] = in.readUnsignedShort();
+                }
+            }
+            for (int i = 1; i < size; i++) {
+                due.is("a lambda, or texts joined by +, in " + c.getName(), tags[i] >= 15 && tags[i] <= 18 ? 1 : 0, 0);
+                if (tags[i] < 9 || tags[i] > 11) continue;
+                String of = texts[parts[parts[i][0]][0]];
+                String name = texts[parts[parts[i][1]][0]];
+                boolean own = of.startsWith("PalmTastes") || of.startsWith("[") && name.equals("clone");
+                boolean listed = tags[i] != 9 && LIBRARY.getOrDefault(of, Set.of()).contains(name);
+                due.is("listed: " + of + "." + name, own || listed ? 1 : 0, 1);
+            }
         }
     }
 

@@ -57,7 +57,7 @@ public final class RefusedTest {
     }
 
     /** 3 walls, 2 readers, a fault behind it, an image 0, 3 acts, a trace, a tape; the latest finding is KIND. */
-    private static void standing(PalmTastes x) {
+    static void standing(PalmTastes x) {
         Due.street(x, "wall 31");
         Due.street(x, "wall9 8 30 0 1;wall0 8 1 30 2;wall0 0 0 0 0;reader plain1 0 2 0 9;reader fever0 3 0 0 0;");
         x.image(0);
@@ -70,7 +70,9 @@ public final class RefusedTest {
         x.as(1, 1);
     }
 
+    /** The same rows, a fault and a tape, but no street as yet; the latest finding is SIZE. */
     private static void noStreet(PalmTastes x) {
+        Due.street(x, "wall 31");
         rows(x);
         Due.feed(x, "wall 1 2 3 4 5;");
         x.row(0, 0, -1);

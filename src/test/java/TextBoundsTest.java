@@ -18,6 +18,7 @@ public final class TextBoundsTest {
         howStrong();
         howUsed();
         sorts();
+        eachLetterOfAWord();
         mostWalls();
         mostReaders();
         standsInPlace();
@@ -284,6 +285,23 @@ public final class TextBoundsTest {
             faulty(W + "reader " + sort + " " + sort + " 0 0 0 0 0;", 1, 23 + sort.length());
         }
         for (String none : new String[] {"reader", "wall", "sweet", "0", ";", "Plain"}) faulty(W + "reader " + none, 1, 22);
+    }
+
+    /** "'wall' .. 'reader' .. 'plain' | 'child' | 'wax' | 'fever' | 'scholar'": with another letter at one place it is no such word. */
+    private static void eachLetterOfAWord() {
+        String[] words = {"wall", "reader", "plain", "child", "wax", "fever", "scholar"};
+        String[] aheads = {"", W, W + "reader ", W + "reader ", W + "reader ", W + "reader ", W + "reader "};
+        for (int i = 0; i < words.length; i++) {
+            String behind = i == 1 ? " plain 0 0 0 0 0;" : " 0 0 0 0 0;";
+            reads(aheads[i] + words[i] + behind, 1);
+            for (int place = 0; place < words[i].length(); place++) {
+                for (char letter = 'a'; letter <= 'z'; letter++) {
+                    if (letter == words[i].charAt(place)) continue;
+                    String other = words[i].substring(0, place) + letter + words[i].substring(place + 1);
+                    faulty(aheads[i] + other + behind, 1, aheads[i].length());
+                }
+            }
+        }
     }
 
     /** "WALLS 0 .. 7, 8 at most"; "3 a wall .. more than there is room for (its word)" */
