@@ -1,3 +1,5 @@
+import java.util.List;
+
 /**
  * What each call that is answered makes another, and that nothing else is another then, in the order of the promises
  * ("FORETOLD (nothing changes, all palms as they are)"; "IMAGES and ROWS stay"; "ACTS .., each can be undone").
@@ -64,8 +66,17 @@ public final class AnsweredTest {
         // Reader 0 on walls 0, 1, 2 tasted sour, salt, nothing, then nothing, salt, sour; reader 1 nothing, salt, sour.
         are("palm 0,", palm(x, 0), 0, 0, 1, 0, 3, 2);
         are("palm 1,", palm(x, 1), 0, 0, 1, 0, 0, 2);
-        due.is("row 0", Whole.items(x, 0).equals(java.util.List.of(0, 1, 2)) ? 1 : 0, 1);
-        due.is("row 1", Whole.items(x, 1).equals(java.util.List.of(3, 4)) ? 1 : 0, 1);
+        for (int left = 4; left >= 0; left--) due.is("undo()", x.undo(), left);
+        due.is("undo() of none", x.undo(), Due.STATE);
+        due.is("as it was read", x.count(5), 48 + 41);
+        due.is("restore(1)", x.restore(1), 1);
+        due.is("as image 1 kept it", x.count(5), 74);
+        due.is("restore(0)", x.restore(0), 1);
+        due.is("as image 0 kept it", x.count(5), 48 + 41);
+        due.is("street()", x.street(), 1);
+        due.is("as the tape tells it", x.count(5), 15);
+        due.is("row 0", Whole.items(x, 0).equals(List.of(0, 1, 2)) ? 1 : 0, 1);
+        due.is("row 1", Whole.items(x, 1).equals(List.of(3, 4)) ? 1 : 0, 1);
         due.is("row 1 is of shorts", x.set(1, 0, 40000), 40000 - 65536);
         due.is("row 2", x.drop(2), 0);
     }
@@ -201,8 +212,10 @@ public final class AnsweredTest {
         Twins used = new Twins(due, "used to all by 9: ", x -> {
             standing(x);
             x.street();
-            Due.street(x, "wall 1 2 3 4 5;reader plain 9 9 9 9 9;");
+            Due.street(x, "wall 1 2 3 4 5;reader plain 9 9 9 9 9;reader fever 0 0 0 0 0;");
             Due.feed(x, "wall 5 4 3 2 1;");
+            x.day(0);
+            x.walk(1, 0, 0);
         });
         for (int k = 0; k < 5; k++) {
             int told = k;
